@@ -38,6 +38,10 @@ public final class StruckJury {
     private static final int FAULT = -20;
     private static final long LONG_REFUSAL = 4000000000000000000L;
 
+    /** Beyond every VALUE: none is above 100 to the 8th. */
+    private static final long VALUE_BELOW = -1L;
+    private static final long VALUE_ABOVE = 10000000000000001L;
+
     private final Bench bench;
     private final Bench kept;
     private boolean isKept;
@@ -362,14 +366,7 @@ public final class StruckJury {
         if (what == 1) {
             return ways(bench.people, needed);
         }
-        long sum = 0;
-        int everyone = bench.everyone();
-        for (int jury = 1; jury <= everyone; jury++) {
-            if (Integer.bitCount(jury) == needed) {
-                sum += minds.rightOf(jury);
-            }
-        }
-        return sum;
+        return minds.rightOfAll(bench.people);
     }
 
     public int trade() {
@@ -716,6 +713,7 @@ public final class StruckJury {
         private final int[] leans0 = new int[MOST_PEOPLE];
         private final int[] leans1 = new int[MOST_PEOPLE];
         private final long[] spread = new long[MOST_NEEDED + 1];
+        private final long[][] spreads = new long[MOST_NEEDED + 1][MOST_NEEDED + 1];
         private int needed;
         private boolean byAll;
         private int truth;
@@ -769,6 +767,41 @@ public final class StruckJury {
             }
         }
 
+        /** RIGHT added up over all juries of the first people. */
+        private long rightOfAll(int people) {
+            spreadOutAll(leans0, people);
+            long ifRight = findsForA();
+            spreadOutAll(leans1, people);
+            return truth * ifRight + (100 - truth) * findsForB();
+        }
+
+        /** spread[k] added up over all juries; spreads[size] over all sets of that size. */
+        private void spreadOutAll(int[] leans, int people) {
+            for (int size = 0; size <= needed; size++) {
+                for (int k = 0; k <= size; k++) {
+                    spreads[size][k] = 0;
+                }
+            }
+            spreads[0][0] = 1;
+            for (int person = 0; person < people; person++) {
+                long lean = leans[person];
+                // Downwards, so that nobody is added to a set that has him already.
+                for (int size = needed - 1; size >= 0; size--) {
+                    for (int k = 0; k <= size; k++) {
+                        spreads[size + 1][k + 1] += spreads[size][k] * lean;
+                        spreads[size + 1][k] += spreads[size][k] * (100 - lean);
+                    }
+                }
+            }
+            for (int k = 0; k <= needed; k++) {
+                spread[k] = spreads[needed][k];
+            }
+        }
+
+        private boolean areAlike(int person, int other) {
+            return leans0[person] == leans0[other] && leans1[person] == leans1[other];
+        }
+
         private long findsForA() {
             return byAll ? spread[needed] : spreadSum(needed / 2 + 1, needed);
         }
@@ -794,6 +827,8 @@ public final class StruckJury {
     private static final class Turns {
         private final long[] values;
         private final int[] sides = new int[MOST_ROW];
+        /** By person: the nearest one before who finds just like him (a bit), or 0. */
+        private final int[] twins = new int[MOST_PEOPLE];
         private int all;
         private int strikes;
         private int needed;
@@ -828,20 +863,48 @@ public final class StruckJury {
             for (int place = 0; place < strikes; place++) {
                 sides[place] = sideAt(place, strikesA, strikesB, first);
             }
+            findTwins(minds);
             // A set without one of its people is a lesser number, so it is known by then.
             for (int set = 1; set <= all; set++) {
-                int size = Integer.bitCount(set);
-                if ((set & ~all) != 0 || size < needed) {
-                    continue;
+                if ((set & ~all) == 0 && Integer.bitCount(set) >= needed) {
+                    values[set] = worthOf(minds, set);
                 }
-                values[set] = size == needed
-                    ? minds.chanceOf(set)
-                    : valueAfterBest(set, sides[needed + strikes - size]);
             }
         }
 
+        private void findTwins(Minds minds) {
+            for (int person = 0; person < MOST_PEOPLE; person++) {
+                twins[person] = 0;
+                for (int other = 0; other < person; other++) {
+                    if ((all & (1 << other)) != 0 && minds.areAlike(person, other)) {
+                        twins[person] = 1 << other;
+                    }
+                }
+            }
+        }
+
+        private long worthOf(Minds minds, int set) {
+            int like = lesserLike(set);
+            if (like != set) {
+                return values[like];
+            }
+            int size = Integer.bitCount(set);
+            return size == needed ? minds.chanceOf(set) : valueAfterBest(set, sides[needed + strikes - size]);
+        }
+
+        /** A lesser set that differs in one twin for another, or the set itself: it saves most of the work. */
+        private int lesserLike(int set) {
+            for (int person = 1; person < MOST_PEOPLE; person++) {
+                int twin = twins[person];
+                if ((set & (1 << person)) != 0 && twin != 0 && (set & twin) == 0) {
+                    return set ^ (1 << person) ^ twin;
+                }
+            }
+            return set;
+        }
+
         private long valueAfterBest(int set, int side) {
-            long value = side == A ? Long.MIN_VALUE : Long.MAX_VALUE;
+            long value = side == A ? VALUE_BELOW : VALUE_ABOVE;
             for (int bit = 1; bit < SETS; bit <<= 1) {
                 if ((set & bit) != 0) {
                     long after = values[set ^ bit];
@@ -908,7 +971,7 @@ public final class StruckJury {
             countA = listSets(setsA, all, bench.strikesOf(A));
             countB = listSets(setsB, all, bench.strikesOf(B));
             for (int b = 0; b < countB; b++) {
-                sureB[b] = Long.MIN_VALUE;
+                sureB[b] = VALUE_BELOW;
             }
             for (int a = 0; a < countA; a++) {
                 weighSet(a, all);
@@ -953,7 +1016,7 @@ public final class StruckJury {
 
         private void weighSet(int a, int all) {
             int left = all & ~setsA[a];
-            long least = Long.MAX_VALUE;
+            long least = VALUE_ABOVE;
             for (int b = 0; b < countB; b++) {
                 long value = values[left & ~setsB[b]];
                 if (value < least) {

@@ -448,6 +448,10 @@ public final class PromisesTest {
         due("rests() of not enough", x.rests(), -3);
         due("rest(0) of not enough", x.rest(0), -3);
         due("rest(-1) of not enough", x.rest(-1), -3);
+        x = of("s0:100,100;s1:0,0;n2;p0010;");
+        due("both wrote the first", x.paper(1, 1), 0);
+        due("both wrote the third", x.paper(4, 4), 1000000);
+        due("the last two", x.paper(1, 2), 0);
         x = of("s0:90,10;s1:10,50;n2;p1100;");
         due("none at rest", x.rests(), 0);
         due("rest(0) of none", x.rest(0), -9);
@@ -490,6 +494,11 @@ public final class PromisesTest {
         due("coming()", x.coming(), 10000);
         due("B need not strike", x.come(0), 1);
         due("A keeps one", x.come(1), 1);
+        due("B keeps one", x.come(2), 1);
+        // A strikes the first, who is for B; B has nothing to win then.
+        x = of("s0:100,100;s1:0,0;n1;x11;p100;");
+        due("the second is seated", x.come(0), 2);
+        due("A has none left", x.come(1), 0);
         due("B keeps one", x.come(2), 1);
         x = of("n2;x00;p00;");
         due("all are needed", x.come(0), 3);
@@ -552,6 +561,8 @@ public final class PromisesTest {
         due("RIGHT together", x.lot(0), 1000000 + 2 * 750000);
         refused("lot(2)", x.lot(2), -2);
         refused("lot(-1)", x.lot(-1), -2);
+        x.set(0, 3);
+        due("just as many as NEEDED", x.lot(1), 1);
         x.set(0, 4);
         refused("fewer than NEEDED", x.lot(0), -3);
         refused("fewer than NEEDED, no such what", x.lot(2), -2);
