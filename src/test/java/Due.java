@@ -4,8 +4,14 @@ final class Due {
 
     private static int asked = 0;
     private static int wrong = 0;
+    private static String place = "";
 
     private Due() {
+    }
+
+    /** What is due from here on is due by this place of the document. */
+    static void by(String sentence) {
+        place = sentence + ": ";
     }
 
     static void due(String call, long got, long want) {
@@ -13,7 +19,7 @@ final class Due {
         if (got != want) {
             wrong++;
             if (wrong <= 50) {
-                System.out.println(call + " answered " + got + ", due is " + want);
+                System.out.println(place + call + " answered " + got + ", due is " + want);
             }
         }
     }

@@ -2,51 +2,7 @@
  * Each promise by cases that can be worked out by hand. Many of them have people
  * who always find for A (sort 0), always for B (sort 1), or as often as not (2).
  */
-public final class PromisesTest {
-    private static final int BIG = Integer.MAX_VALUE;
-    private static final int LOW = Integer.MIN_VALUE;
-
-    private static void due(String call, long got, long want) {
-        Due.due(call, got, want);
-    }
-
-    private static void refused(String call, long got, int number) {
-        Due.refused(call, got, number);
-    }
-
-    private static int read(StruckJury x, String text) {
-        for (int at = 0; at < text.length(); at += 8) {
-            int n = Math.min(8, text.length() - at);
-            long bytes = 0;
-            for (int i = 0; i < n; i++) {
-                bytes |= (long) text.charAt(at + i) << 8 * i;
-            }
-            due("feed of " + text, x.feed(n, bytes), at + n);
-        }
-        return x.court();
-    }
-
-    private static StruckJury of(String... texts) {
-        StruckJury x = new StruckJury();
-        for (String text : texts) {
-            int statements = text.length() - text.replace(";", "").length();
-            due("court() of " + text, read(x, text), statements);
-        }
-        return x;
-    }
-
-    /** One who finds for A, one for B, one as often as not; one is needed, one strike each. */
-    private static StruckJury three() {
-        return of("s0:100,100;s1:0,0;n1;p012;");
-    }
-
-    private static void putAll(StruckJury x, int... people) {
-        x.unput();
-        for (int i = 0; i < people.length; i++) {
-            due("put", x.put(people[i]), i + 1);
-        }
-    }
-
+public final class PromisesTest extends Courts {
     private static void newObject() {
         StruckJury x = new StruckJury();
         for (int what = 0; what <= 16; what++) {
