@@ -403,6 +403,10 @@ final class TermEdges extends Courts {
         due("none", of("s0:90,10;s1:10,50;n2;p1100;").rests(), 0);
         due("all, as all are alike", of("n1;p000;").rests(), 9);
         due("nothing to write", of("n1;x00;p0;").rests(), 1);
+        x = of("n3;x33;p000000000;");
+        x.coming();
+        read(x, "n1;x00;");
+        due("nothing to write any more", x.rests(), 1);
 
         term("Pairs are told by A's set, then B's, as bits");
         x = of("n1;x12;p0000;");
@@ -498,6 +502,12 @@ final class TermEdges extends Courts {
         StruckJury x = of("s0:10,50;s1:50,100;s2:50,0;n2;h1;p2102;");
         due("the first pair", x.rest(0), 4096 * 4 + 2);
         due("its JURY", x.right(9), 625000);
+        due("finest()", x.finest(), 1);
+
+        // {0, 2} and {0, 3} have the same CHANCE; by TURNS B strikes 2, the lesser, but only 3 is at rest.
+        x = of("s0:66,28;s1:13,75;s2:100,34;s3:72,88;n2;t45;p0123;");
+        due("just one pair", x.rests(), 1);
+        due("A's 1, B's 3", x.rest(0), 4096 * 2 + 8);
         due("finest()", x.finest(), 1);
 
         term("(A way that has none does not count.)");
